@@ -58,7 +58,6 @@ public final class SampleStore {
         }
         int made = seriesCount;
         labelsOf[made] = labels;
-        // A crash may have dropped an earlier series that had this number.
         lengthOf[made] = 0;
         newestOf[made] = BEFORE_ALL_TIMES;
         seriesCount = made + 1;

@@ -17,12 +17,14 @@ public final class PromisesTest {
         appendRefusesWhenFull();
         expireTakesOutWhatIsBelow();
         expireTakesAnyInt();
+        expireOnAFullStore();
         expireKeepsTheSeriesAndTheNewestTime();
         syncKeepsWhatIsPresent();
         crashBringsTheSafeStateBack();
         crashBringsTheNewestTimeBack();
         crashAnswersTheDifference();
         crashForgetsSeriesMadeSince();
+        crashOfAFullStore();
         countTakesTheStretch();
         sumOfTheSamples();
         leastAndMost();
@@ -240,6 +242,16 @@ public final class PromisesTest {
         check.due("4: MAX again", x.expire(MAX), 0);
     }
 
+    private static void expireOnAFullStore() {
+        SampleStore x = fullStore();
+        check.due("4: nothing of a full store", x.expire(0), 0);
+        check.due("4: one of each", x.expire(1), 8);
+        check.due("4: last series keeps its latest", x.at(7, 93), 255 * 37 % 257 - 100);
+        check.due("4: room for one", x.append(7, 94, 5), 32);
+        check.due("4: last of the last", x.at(7, 94), 5);
+        check.due("4: the rest", x.expire(MAX), 249);
+    }
+
     private static void expireKeepsTheSeriesAndTheNewestTime() {
         SampleStore x = oneSeries(10, 1);
         x.expire(1000);
@@ -330,6 +342,16 @@ public final class PromisesTest {
         check.due("6: no newest time of the lost one", x.append(1, 0, 5), 1);
     }
 
+    private static void crashOfAFullStore() {
+        SampleStore x = fullStore();
+        x.sync();
+        check.due("6: nothing lost", x.crash(), 0);
+        x.expire(MAX);
+        check.due("6: all back", x.crash(), -256);
+        check.due("6: last sample", x.at(7, 93), 255 * 37 % 257 - 100);
+        check.due("6: a full new store", fullStore().crash(), 256);
+    }
+
     // Promises 7 to 10
 
     private static void countTakesTheStretch() {
@@ -381,6 +403,12 @@ public final class PromisesTest {
         check.due("10: stretch", x.most(ALL, 10, 24), 8);
         check.due("9: one series", x.least(matcher(4, 4, 2), 0, 999), 6);
         check.due("10: one series", x.most(matcher(4, 4, 0), 0, 999), 8);
+        check.due("9: second of two", x.least(ALL, 10, 15), -5);
+        check.due("10: second of two", x.most(ALL, 10, 15), 6);
+        check.due("9: falling", oneSeries(1, 4, 2, 3).least(ALL, 0, 999), 3);
+        check.due("10: rising", oneSeries(1, 3, 2, 4).most(ALL, 0, 999), 4);
+        check.due("9: full store", fullStore().least(ALL, 0, 999), -100);
+        check.due("10: full store", fullStore().most(ALL, 0, 999), 156);
         check.due("9: all below 0", x.least(ALL, 30, 30), -1000);
         check.due("10: all below 0", x.most(ALL, 30, 30), -1000);
         check.due("9: no sample", x.least(ALL, 36, 999), SampleStore.NONE);
